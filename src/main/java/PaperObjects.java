@@ -935,8 +935,8 @@ public final class PaperObjects {
             depth = 0;
             key = 0;
             place = begin;
-            // Each step takes a token, so there are no more than characters.
-            for (int step = 0; step < from.length; step++) {
+            // Each step takes a token of at least one character, or is the last.
+            for (int step = 0; step <= from.length; step++) {
                 place = from.spacesEnd(place);
                 if (!takeClosing() && !(wantsKey() ? takeKey() : takeValue())) {
                     return false;
@@ -945,7 +945,6 @@ public final class PaperObjects {
                     return true;
                 }
             }
-            place = from.spacesEnd(place);
             return false;
         }
 

@@ -11,11 +11,12 @@ public final class FileTest {
         Paper.due("poke 2", x.poke(2, '~'), Paper.OK);
         Paper.due("poke 3", x.poke(3, ' '), Paper.OK);
         Paper.due("poke 1 again", x.poke(1, 'b'), Paper.OK);
+        Paper.due("poke 0 again", x.poke(0, 'A'), Paper.OK);
         for (char c : new char[] {0, 9, 13, 31, 127, 128, 255, 256 + 'a', 65535}) {
             Paper.due("poke character " + (int) c, x.poke(0, c), Paper.ARGUMENT);
             Paper.due("poke character " + (int) c + " at the end", x.poke(4, c), Paper.ARGUMENT);
         }
-        Paper.due("text", x.fileText(), "ab~ ");
+        Paper.due("text", x.fileText(), "Ab~ ");
         Paper.due("poke of the least int", x.poke(Integer.MIN_VALUE, 'a'), Paper.BOUNDS);
         Paper.due("poke of the greatest int", x.poke(Integer.MAX_VALUE, 'a'), Paper.BOUNDS);
     }

@@ -81,6 +81,7 @@ public final class LoadTest {
         loads(withTable("xref\n" + ENTRY + "trailer\n \n<< \n/A [1]/Root 1\n0 R>>"), "1");
         loads(withTable("xref\n" + ENTRY + "trailer\n<</Root 9 9 R>>>> and so on"), "1");
         String file = withTable("xref\n" + ENTRY + ROOT);
+        loads("xref\n" + ROOT + "startxref\n0\n%%EOF\n", "0");
         faultIn(file.replace("xref\n17\n", "xref\n16\n"), TABLE, 16);
         faultIn(file.replace("xref\n17\n", "xref\n18\n"), TABLE, 18);
         faultIn(file.replace("xref\n17\n", "xref\n999\n"), TABLE, 999);
@@ -161,6 +162,8 @@ public final class LoadTest {
         faultIn(new Sheet().object(1, "5\nendobj\n").end().replace(" obj", " Obj"), OBJECT, 1);
         faultIn(new Sheet().object(1, "5\nendobj\n").end().replace("1 0 obj\n5", "1 0 obj 5"), OBJECT, 1);
         faultIn(new Sheet().object(1, "5\nendobj\n").end().replace("1 0 obj", "1-0 obj"), OBJECT, 1);
+        Sheet last = new Sheet().object(1, "5\nendobj\n").object(9, "5\nendob");
+        faultIn(last.end(), OBJECT, last.place(9));
         Sheet later = new Sheet().object(2, "x\nendobj\n").object(1, "y\nendobj\n");
         faultIn(later.end(), OBJECT, later.place(1));
         loads(new Sheet().object(1, "5\nendobj\n").entry("2 1\n003 4 f\n").end(), "1");
@@ -214,6 +217,10 @@ public final class LoadTest {
         faultIn(free.end(), LENGTH, 1);
         Sheet spoiled = new Sheet().object(1, "<</Length 3 0 R>>" + STREAM).object(2, "x\nendobj\n").object(3, "y\nendobj\n");
         faultIn(spoiled.end(), OBJECT, spoiled.place(3));
+        for (String value : new String[] {"[x", "(y", "/abcdefg", "<</A 1/A", "[[[[[1", "%"}) {
+            Sheet begun = new Sheet().object(1, "<</Length 2 0 R>>" + STREAM).object(2, value + "\nendobj\n");
+            faultIn(begun.end(), OBJECT, begun.place(2));
+        }
         Sheet endless = new Sheet().object(1, "<</Length 3 0 R>>" + STREAM).object(2, "7\nendobj\n").object(3, "3 and\n");
         faultIn(endless.end(), OBJECT, endless.place(3));
         Sheet laterFault = new Sheet().object(1, "<</Length 3 0 R>>" + STREAM).object(2, "x\nendobj\n").object(3, "3 and\n");
@@ -253,7 +260,11 @@ public final class LoadTest {
         Paper.due("its place is not", x.at(), -1);
         Paper.due("states", x.states(), "1 1 0 0 0 0 0 0 0");
         x.poke(7, '2');
+        x.go(2);
         Paper.due("load", x.loaded(), OBJECT + " at 7");
+        Paper.due("states stay", x.states(), "1 1 0 0 0 0 0 0 0");
+        Paper.due("the cursor stays", x.printed(), "[1 2]");
+        Paper.due("values stay", x.printedOf(1), "<</A 2 0 R /Length 3>>");
         x.poke(7, '1');
         x.load();
         Paper.due("the latest fault", x.fault(), OBJECT);
@@ -279,6 +290,63 @@ public final class LoadTest {
         x.put(2, "<</Length 1>>");
         x.root(2);
         Paper.due("contents of before are gone", x.save(true), Paper.anewLength(8 + 14 + 7));
+    }
+
+    private static void severalLoads() {
+        Paper x = new Paper();
+        x.writeFile(new Sheet().object(1, "<</Length 2>>\nstream\nab\nendstream\nendobj\n").object(2, 3, "[7]\nendobj\n").end());
+        Paper.due("load", x.load(), 2);
+        x.put(2, "8");
+        x.put(3, "9");
+        Paper.due("load again", x.load(), 2);
+        x.put(3, "9");
+        Paper.due("load for the third time", x.load(), 2);
+        Paper.due("states", x.states(), "1 13 0 0 0 0 0 0 0");
+        Paper.due("value", x.printedOf(2), "[7]");
+        String file = "1 0 obj\n5\nendobj\nxref\n1 1\n000 0 n\ntrailer\n<</Root 1 0 R>>\nstartxref\n17\n%%EOF\n";
+        x.writeFile(file);
+        for (int i = 0; i < 3; i++) {
+            Paper.due("load of another file", x.load(), 1);
+            Paper.due("states", x.states(), "1 0 0 0 0 0 0 0 0");
+        }
+        Paper.due("without contents", x.save(true), Paper.anewLength(17));
+    }
+
+    private static void contentsOfBefore() {
+        Paper x = new Paper();
+        x.put(1, "<<>>");
+        x.content(1, "abc");
+        x.root(1);
+        x.save(true);
+        String size = x.save(true);
+        for (int i = 0; i < 3; i++) {
+            Paper.due("load", x.load(), 1);
+            Paper.due("save", x.save(true), size);
+        }
+        Paper.due("contents", x.fileText().substring(29, 53), "stream\nabc\nendstream\nend");
+        x.poke(7, '2');
+        Paper.due("an object that cannot be read any more", x.loaded(), OBJECT + " at 7");
+    }
+
+    private static void farPlaces() {
+        Paper x = new Paper();
+        x.put(1, "1");
+        x.root(1);
+        x.save(true);
+        for (int i = 0; i < 14; i++) {
+            x.save(false);
+        }
+        Paper.due("size", x.size(), 973);
+        x.poke(963, '9');
+        x.poke(964, '7');
+        x.poke(965, '2');
+        Paper.due("the last place of the file", x.loaded(), TABLE + " at 972");
+        x.poke(965, '3');
+        Paper.due("behind it", x.loaded(), TABLE + " at 973");
+        x.poke(963, '9');
+        x.poke(964, '1');
+        x.poke(965, '4');
+        Paper.due("over all tables", x.loaded(), "1");
     }
 
     private static void generationsOverSavesAndLoads() {
@@ -313,6 +381,9 @@ public final class LoadTest {
         lengthsOfOthers();
         aFaultChangesNothing();
         loadTakesAllAway();
+        severalLoads();
+        contentsOfBefore();
+        farPlaces();
         generationsOverSavesAndLoads();
         Paper.end();
     }

@@ -39,6 +39,8 @@ public final class ReadTest {
         Paper.due("type one more", x.type("1"), Paper.ARGUMENT);
         Paper.due("put 100", x.put(1), Paper.OK);
         Paper.due("printed", x.printedOf(1), "7");
+        Paper.due("type 92", x.type(" ".repeat(92)), 92);
+        Paper.due("type 8 more", x.type("12345678"), 100);
     }
 
     private static void typeIsWhatWasTyped() {
@@ -142,6 +144,13 @@ public final class ReadTest {
         faultAt("--1", 0);
         faultAt("1-", 0);
         faultAt("1-2", 0);
+        for (char c : "azAZ09-".toCharArray()) {
+            faultAt("[nul" + c + "]", 1);
+            faultAt("[null" + c + "]", 1);
+            faultAt("[-1" + c + "x]", 1);
+            faultAt("[1 0 R" + c + "]", 5);
+            faultAt("/abcde" + (c == '-' ? 'x' : c) + c, c == '-' ? 7 : 0);
+        }
         faultAt("1a", 0);
         faultAt("1234567", 0);
         faultAt("-1234567", 0);
@@ -155,6 +164,10 @@ public final class ReadTest {
         faultAt("[1 0 R-]", 5);
         faultAt("[1 0 R 0 R]", 9);
         faultAt("[1 0 (R)R]", 8);
+        faultAt("[1/0 R]", 5);
+        faultAt("[1[0 R]", 5);
+        reads("[1 0/R]", "[1 0 /R]");
+        reads("[1/A 0 1/R]", "[1 /A 0 1 /R]");
     }
 
     private static void namesAndStringsThatAreNone() {
@@ -272,6 +285,19 @@ public final class ReadTest {
         Paper.due("save without contents", x.save(true), Paper.anewLength(8 + 14 + 7));
     }
 
+    private static void aFaultLeavesNothingBehind() {
+        Paper x = new Paper();
+        x.put(1, "<</A");
+        Paper.due("behind a key without value", x.put(1, "[/B <<>>]"), Paper.OK);
+        Paper.due("printed", x.printedOf(1), "[/B <<>>]");
+        x.put(1, "[[[[[[");
+        Paper.due("behind what was begun", x.put(1, "<</A [1]>>"), Paper.OK);
+        Paper.due("printed", x.printedOf(1), "<</A [1]>>");
+        x.put(1, "[1 2 3 4 5 6 7 8 9 0 1 2");
+        Paper.due("behind too many", x.put(1, "[1 2 3 4 5 6 7 8 9 0 1]"), Paper.OK);
+        Paper.due("printed", x.printedOf(1), "[1 2 3 4 5 6 7 8 9 0 1]");
+    }
+
     private static void at() {
         Paper x = new Paper();
         x.put(1, "<<>>");
@@ -317,6 +343,7 @@ public final class ReadTest {
         putOfTheLastGeneration();
         putInUseWithTheLastGeneration();
         putTakesContentsAway();
+        aFaultLeavesNothingBehind();
         at();
         Paper.end();
     }

@@ -17,6 +17,7 @@ public final class TableTest {
         contentGivesALength("<</B 1/Length null/A 1>>", "ab", "<</B 1 /Length 2 /A 1>>");
         contentGivesALength("<</Length (abc)/A (d)>>", "ab", "<</Length 2 /A (d)>>");
         contentGivesALength("<</Length [1 [2 /C]]/A [3 <</B 1 0 R>> (xyz)]>>", "ab", "<</Length 2 /A [3 <</B 1 0 R>> (xyz)]>>");
+        contentGivesALength("<</Length[1 2]/A 3 7 R/B-8/C[]>>", "ab", "<</Length 2 /A 3 7 R /B -8 /C []>>");
         contentGivesALength("<</Length 5 0 R>>", "ab", "<</Length 5 0 R>>");
         contentGivesALength("<</A <</Length 5 0 R>>>>", "ab", "<</A <</Length 5 0 R>> /Length 2>>");
         contentGivesALength("<</length 5>>", "ab", "<</length 5 /Length 2>>");
@@ -61,6 +62,8 @@ public final class TableTest {
         x.type("a\n");
         Paper.due("with a newline", x.tell(p -> p.content(1)), Paper.ARGUMENT);
         Paper.due("the draft stays", x.ask(p -> p.type(0)), 2);
+        x.put(9);
+        Paper.due("with a newline before", x.content(1, "\nab"), Paper.ARGUMENT);
         x.put(9);
         Paper.due("with a reference as Length", x.content(4, "a"), Paper.OK);
     }
