@@ -217,7 +217,7 @@ public final class LoadTest {
         faultIn(free.end(), LENGTH, 1);
         Sheet spoiled = new Sheet().object(1, "<</Length 3 0 R>>" + STREAM).object(2, "x\nendobj\n").object(3, "y\nendobj\n");
         faultIn(spoiled.end(), OBJECT, spoiled.place(3));
-        for (String value : new String[] {"[x", "(y", "/abcdefg", "<</A 1/A", "[[[[[1", "%"}) {
+        for (String value : new String[] {"[x", "(y", "(a\\b)", "/abcdefg", "<</A 1/A", "[[[[[1", "%"}) {
             Sheet begun = new Sheet().object(1, "<</Length 2 0 R>>" + STREAM).object(2, value + "\nendobj\n");
             faultIn(begun.end(), OBJECT, begun.place(2));
         }
