@@ -1,55 +1,5 @@
 /** Promises 8 and 10: loading files that others wrote, and their faults. */
-public final class LoadTest {
-    private static final int TAIL = PaperObjects.TAIL;
-    private static final int TABLE = PaperObjects.TABLE;
-    private static final int OBJECT = PaperObjects.OBJECT;
-    private static final int LENGTH = PaperObjects.LENGTH;
-
-    /** A file in the making, which knows where its objects are. */
-    private static final class Sheet {
-        private final StringBuilder text = new StringBuilder("%");
-        private final int[] places = new int[10];
-        private final StringBuilder entries = new StringBuilder();
-
-        Sheet object(int number, String rest) {
-            return object(number, 0, rest);
-        }
-
-        Sheet object(int number, int generation, String rest) {
-            places[number] = text.length();
-            text.append(number).append(' ').append(generation).append(" obj\n").append(rest);
-            entries.append(number).append(" 1\n").append(String.format("%03d %d n\n", places[number], generation));
-            return this;
-        }
-
-        Sheet entry(String more) {
-            entries.append(more);
-            return this;
-        }
-
-        int place(int number) {
-            return places[number];
-        }
-
-        String end() {
-            int table = text.length();
-            return text + "xref\n" + entries + "trailer\n<</Root 1 0 R>>\nstartxref\n" + table + "\n%%EOF\n";
-        }
-    }
-
-    private static Paper loads(String file, String answer) {
-        Paper x = new Paper();
-        x.writeFile(file);
-        Paper.due("load of\n" + file, x.loaded(), answer);
-        return x;
-    }
-
-    private static void faultIn(String file, int fault, int place) {
-        Paper x = loads(file, fault + " at " + place);
-        Paper.due("states", x.states(), "0 0 0 0 0 0 0 0 0");
-        Paper.due("no root", x.save(true), Paper.STATE);
-    }
-
+public final class LoadTest extends Checks {
     private static final String ONE = "1 0 obj\n5\nendobj\n";
     private static final String ENTRY = "1 1\n000 0 n\n";
     private static final String ROOT = "trailer\n<</Root 1 0 R>>\n";

@@ -13,14 +13,20 @@ final class Paper {
     /** The document says nothing of what calls behind these answer. */
     private static final int MOST_CALLS = 512;
     private static int wrong = 0;
+    private static String sentence = "";
 
     private final PaperObjects objects = new PaperObjects();
     private int calls = 0;
 
+    /** The words of the document that the answers from here on are about; told with each that is wrong. */
+    static void says(String words) {
+        sentence = "the document says: " + words + "\n";
+    }
+
     static void due(String what, String got, String want) {
         if (!got.equals(want)) {
             wrong++;
-            System.out.println(what + "\n  answered " + got + "\n  due is   " + want);
+            System.out.println(sentence + what + "\n  answered " + got + "\n  due is   " + want);
         }
     }
 
@@ -184,9 +190,13 @@ final class Paper {
     }
 
     String fileText() {
+        return fileTextFrom(0);
+    }
+
+    String fileTextFrom(int place) {
         StringBuilder all = new StringBuilder();
         int size = Integer.parseInt(size());
-        for (int i = 0; i < size; i++) {
+        for (int i = Math.max(0, place); i < size; i++) {
             all.append((char) Integer.parseInt(character(i)));
         }
         return all.toString();

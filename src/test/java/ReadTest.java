@@ -1,20 +1,5 @@
 /** Promises 2, 3, 9 and 20: what is typed is read, its faults have places, and it is printed. */
-public final class ReadTest {
-    private static void reads(String text, String printed) {
-        Paper x = new Paper();
-        Paper.due("put " + text, x.put(1, text), Paper.OK);
-        Paper.due("at behind " + text, x.at(), -1);
-        Paper.due("printed " + text, x.printedOf(1), printed);
-    }
-
-    private static void faultAt(String text, int place) {
-        Paper x = new Paper();
-        Paper.due("put " + text, x.put(1, text), Paper.ARGUMENT);
-        Paper.due("at behind " + text, x.at(), place);
-        Paper.due("state behind " + text, x.state(1), 0);
-        Paper.due("draft behind " + text, x.ask(p -> p.type(0)), 0);
-    }
-
+public final class ReadTest extends Checks {
     private static void type() {
         Paper x = new Paper();
         Paper.due("type nothing", x.ask(p -> p.type(0)), 0);
