@@ -8,12 +8,48 @@ import java.util.TreeSet;
 
 /** The public face and the constants, and promise 1: a new object. */
 public final class FaceTest {
-    private static String throwsOf(Method method) {
+    /** The methods as the document has them, but for the names of their parameters. */
+    private static final String[] METHODS = {
+        "int type(long) throws IllegalArgumentException",
+        "void put(int) throws IndexOutOfBoundsException, IllegalStateException, IllegalArgumentException",
+        "void content(int) throws NoSuchElementException, IllegalStateException, IllegalArgumentException",
+        "void free(int) throws NoSuchElementException",
+        "void root(int) throws NoSuchElementException",
+        "int save(boolean) throws IllegalStateException, UnsupportedOperationException",
+        "int load() throws IllegalArgumentException",
+        "int at()",
+        "int fault()",
+        "void poke(int, char) throws IndexOutOfBoundsException, IllegalArgumentException",
+        "void cut(int) throws IndexOutOfBoundsException",
+        "int size()",
+        "int character(int) throws IndexOutOfBoundsException",
+        "int state(int) throws IndexOutOfBoundsException",
+        "int go(int) throws NoSuchElementException",
+        "int into(int) throws IllegalStateException, IndexOutOfBoundsException",
+        "int follow() throws IllegalStateException, UnsupportedOperationException",
+        "int value(int) throws IllegalStateException, IllegalArgumentException",
+        "int printed(int)",
+        "int reached()",
+    };
+
+    private static String names(Class<?>[] classes) {
         List<String> names = new ArrayList<>();
-        for (Class<?> thrown : method.getExceptionTypes()) {
-            names.add(thrown.getSimpleName());
+        for (Class<?> one : classes) {
+            names.add(one.getSimpleName());
         }
-        return String.join(",", names);
+        return String.join(", ", names);
+    }
+
+    private static TreeSet<String> publicMethods() {
+        TreeSet<String> found = new TreeSet<>();
+        for (Method method : PaperObjects.class.getDeclaredMethods()) {
+            if (Modifier.isPublic(method.getModifiers())) {
+                String thrown = names(method.getExceptionTypes());
+                found.add(method.getReturnType() + " " + method.getName() + "(" + names(method.getParameterTypes()) + ")"
+                    + (thrown.isEmpty() ? "" : " throws " + thrown));
+            }
+        }
+        return found;
     }
 
     private static TreeSet<String> openMembers() {
@@ -28,18 +64,15 @@ public final class FaceTest {
         return names;
     }
 
-    private static void face() throws NoSuchMethodException {
+    private static void face() {
         Paper.due("open members", openMembers().toString(), new TreeSet<>(List.of(
             "NULL", "TRUE", "FALSE", "NUMBER", "NAME", "STRING", "ARRAY", "DICTIONARY", "REFERENCE", "NONE",
             "TAIL", "TABLE", "OBJECT", "LENGTH", "type", "put", "content", "free", "root", "save", "load", "at",
             "fault", "poke", "cut", "size", "character", "state", "go", "into", "follow", "value", "printed",
             "reached")).toString());
-        Class<?> face = PaperObjects.class;
-        Paper.due("final", "" + Modifier.isFinal(face.getModifiers()), "true");
-        Paper.due("put", throwsOf(face.getMethod("put", int.class)), "IndexOutOfBoundsException,IllegalStateException,IllegalArgumentException");
-        Paper.due("content", throwsOf(face.getMethod("content", int.class)), "NoSuchElementException,IllegalStateException,IllegalArgumentException");
-        Paper.due("save", throwsOf(face.getMethod("save", boolean.class)), "IllegalStateException,UnsupportedOperationException");
-        Paper.due("poke", throwsOf(face.getMethod("poke", int.class, char.class)), "IndexOutOfBoundsException,IllegalArgumentException");
+        Paper.due("methods", publicMethods().toString(), new TreeSet<>(List.of(METHODS)).toString());
+        Paper.due("constructors", names(PaperObjects.class.getDeclaredConstructors()[0].getParameterTypes()), "");
+        Paper.due("final", "" + Modifier.isFinal(PaperObjects.class.getModifiers()), "true");
     }
 
     private static void constants() {
@@ -73,7 +106,7 @@ public final class FaceTest {
         Paper.due("another object's draft", y.ask(p -> p.type(0)), 0);
     }
 
-    public static void main(String[] args) throws NoSuchMethodException {
+    public static void main(String[] args) {
         face();
         constants();
         newObject();
