@@ -87,6 +87,46 @@ public final class CallBoundsTest extends Checks {
         }
     }
 
+    private static void draftStays() {
+        Paper.says("Appends to the DRAFT the characters that the bytes of text are");
+        Paper x = with("[1 0 R]", "2");
+        x.type("[4 ");
+        x.root(1);
+        x.save(true);
+        x.save(false);
+        x.load();
+        x.load();
+        x.free(9);
+        x.poke(0, '#');
+        x.load();
+        x.cut(5);
+        x.load();
+        x.go(1);
+        x.into(0);
+        x.follow();
+        x.printed();
+        x.free(1);
+        Paper.due("the draft goes on", x.type("5]"), 5);
+        Paper.due("put", x.put(1), Paper.OK);
+        Paper.due("printed", x.printedOf(1), "[4 5]");
+    }
+
+    private static void fileStays() {
+        Paper.says("Character i of the file, as a number.");
+        Paper x = new Paper();
+        String file = "1 0 obj\n<<>>\nendobj\nxref\n1 1\n000 0 n\ntrailer\n<</Root 1 0 R>>\nstartxref\n20\n%%EOF\n";
+        x.writeFile(file);
+        Paper.due("load", x.load(), 1);
+        x.content(1, "abc");
+        x.put(2, "[1 0 R]");
+        x.root(2);
+        x.free(1);
+        x.go(2);
+        x.printed();
+        x.type("abc");
+        Paper.due("file behind calls that are not for it", x.fileText(), file);
+    }
+
     private static void putOfMore() {
         Paper.says("The draft is read as a value, with nothing but spaces and newlines behind it, which becomes that of the object");
         Paper x = new Paper();
@@ -759,6 +799,8 @@ public final class CallBoundsTest extends Checks {
         typedBytes();
         typedNoCharacters();
         typedTooMany();
+        draftStays();
+        fileStays();
         putOfMore();
         putNumbers();
         putKeepsGeneration();
